@@ -2,10 +2,7 @@
 public final class PromisesTest {
     private static final int NONE = -1, UNKNOWN = -2, OUTSIDE = -3, NOT = -4, FULL = -5;
 
-    /** Ways 0 1 (4 yards), 2 3 (5 yards), 4 (9 yards), of which no two have a street together. */
-    private static final String THREE = "street 0 2 2;street 2 1 2;street 0 3 2;street 3 1 3;street 0 1 9";
-    /** One way, 2 0 3 1: its first is 2, its last 1, its longest 3, its least 0. */
-    private static final String CHAIN = "town 5;street 2 3 4;street 4 1 5;street 0 2 6;street 3 4 7";
+    private static final String THREE = Towns.THREE, CHAIN = Towns.CHAIN;
 
     private static final Check check = new Check("PromisesTest");
 
@@ -319,8 +316,7 @@ public final class PromisesTest {
         due("9: none", x.way(1), NONE);
         due("9: none", x.way(10), NONE);
         due("9: none, yet outside", x.way(2), OUTSIDE);
-        ShutWays y = Check.told("town 8;street 0 2 99;street 2 3 99;street 3 4 99;street 4 5 99;street 5 6 99;"
-                + "street 6 7 99;street 7 1 99");
+        ShutWays y = Check.told(Towns.LONG);
         dueWay("9: by all corners", y, 693, 0, 1, 2, 3, 4, 5, 6);
     }
 
@@ -469,9 +465,7 @@ public final class PromisesTest {
         ShutWays y = Check.told(THREE, "first 1");
         y.flood(4, 99);
         due("16: two ways, one night", y.never(), NONE);
-        ShutWays late = Check.told("town 3;street 0 2 9;street 1 2 1;street 0 1 27;street 2 1 1;street 0 1 2;"
-                + "street 1 2 9;street 1 0 4;street 0 1 24;street 1 0 8;street 2 1 5;street 1 0 1",
-                "street 1 2 11;ends 2 0;also 0 2;least 7");
+        ShutWays late = Towns.longWithWay();
         due("16: in 400 days is too late", late.never(), NONE);
         late.go(1);
         due("16: in 399 days", late.never(), 399);
@@ -524,9 +518,7 @@ public final class PromisesTest {
     }
 
     private static void roundOfManyDays() {
-        ShutWays x = Check.told("town 3;street 0 1 52;street 2 1 11;street 2 0 12;street 1 2 7;street 1 2 11;"
-                + "street 2 1 62;street 2 1 4;street 1 2 1;street 1 0 4;street 0 2 9;street 1 2 77",
-                "ends 0 2;also 2 0;least 8");
+        ShutWays x = Towns.longNotRound();
         due("18: 3 ahead, 998 later", x.round(0), NONE);
         due("18: 3 ahead, 998 later", x.round(1), NONE);
         x.go(1);
