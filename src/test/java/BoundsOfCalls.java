@@ -278,6 +278,7 @@ final class BoundsOfCalls extends Bounds {
         dueUnchanged("flood", fresh, (x, s) -> x.flood(s, 1), UNKNOWN, 0, -1);
         dueUnchanged("flood", busy, (x, s) -> x.flood(s, 1), UNKNOWN, 5, -1, LEAST_INT, GREATEST_INT);
         dueUnchanged("flood, days", busy, (x, n) -> x.flood(1, n), OUTSIDE, 0, 100, -1, LEAST_INT, GREATEST_INT);
+        dueUnchanged("flood of a shut street, days", busy, (x, n) -> x.flood(4, n), OUTSIDE, 0, 100, -1, LEAST_INT, GREATEST_INT);
         dueUnchanged("flood of a thirteenth", () -> Check.told(Towns.FULL), (x, s) -> x.flood(s, 1), UNKNOWN, 12);
         dueUnchanged("flood for less", busy, x -> x.flood(4, 1), 47);
     }
