@@ -1,82 +1,91 @@
+import java.io.IOException;
 import java.lang.reflect.Constructor;
 import java.lang.reflect.Field;
 import java.lang.reflect.Method;
 import java.lang.reflect.Modifier;
+import java.util.Arrays;
+import java.util.List;
 import java.util.Set;
 import java.util.TreeSet;
+import java.util.regex.Matcher;
+import java.util.regex.Pattern;
+import java.util.stream.Collectors;
 
 /** The public face is the document's, and nothing else of the class can be seen from outside. */
 public final class FaceTest {
+    private static final Pattern CONSTANT = Pattern.compile("([A-Z]+) = (-?\\d+)");
+    private static final Pattern METHOD = Pattern.compile("public int (\\w+)\\((.*)\\);");
     private static final Check check = new Check("FaceTest");
 
-    public static void main(String[] args) {
-        check.holds("the class is public and final",
-                Modifier.isPublic(ShutWays.class.getModifiers()) && Modifier.isFinal(ShutWays.class.getModifiers()));
-        constants();
-        methods();
-        constructors();
-        fields();
+    public static void main(String[] args) throws IOException, IllegalAccessException {
+        List<String> face = new Document().face();
+        int modifiers = ShutWays.class.getModifiers();
+        check.holds("the class is public and final", Modifier.isPublic(modifiers) && Modifier.isFinal(modifiers));
+        check.holds("the document has it so", face.contains("public final class ShutWays {"));
+        fields(String.join("\n", face));
+        methods(String.join("\n", face));
+        constructors(face);
+        classesInside();
         check.end();
     }
 
-    private static void constants() {
-        check.due("NONE", ShutWays.NONE, -1);
-        check.due("UNKNOWN", ShutWays.UNKNOWN, -2);
-        check.due("OUTSIDE", ShutWays.OUTSIDE, -3);
-        check.due("NOT", ShutWays.NOT, -4);
-        check.due("FULL", ShutWays.FULL, -5);
+    private static void fields(String face) throws IllegalAccessException {
+        Set<String> due = new TreeSet<>();
+        Matcher constant = CONSTANT.matcher(face);
+        while (constant.find()) {
+            due.add(constant.group());
+        }
+        Set<String> seen = new TreeSet<>();
+        for (Field field : ShutWays.class.getDeclaredFields()) {
+            int modifiers = field.getModifiers();
+            if (!Modifier.isPrivate(modifiers)) {
+                check.holds(field + " is a public int", Modifier.isPublic(modifiers) && field.getType() == int.class);
+                seen.add(field.getName() + " = " + field.getInt(null));
+            }
+        }
+        check.due("constants of the document", due.size(), 5);
+        check.holds("constants: " + seen + ", due are " + due, seen.equals(due));
     }
 
-    private static void methods() {
-        Set<String> due = new TreeSet<>(Set.of("write(long,int)", "erase()", "fault()", "town()", "street(int,int)",
-                "lane(int,int)", "as(int)", "way(int)", "go(int)", "flood(int,int)", "fair()", "keep(int)",
-                "back(int)", "later(int)", "never()", "apart()", "round(int)", "passed(int,int)", "most(int)",
-                "build(int,int,int)", "chosen(int,int)", "carts(int,int)", "night(int)", "forget()", "judge()",
-                "fits(int,int)", "count(int)"));
+    private static void methods(String face) {
         Set<String> names = new TreeSet<>();
+        Set<String> due = new TreeSet<>();
+        Matcher line = METHOD.matcher(face);
+        while (line.find()) {
+            names.add(line.group(1));
+            due.add("int " + line.group(1) + "(" + line.group(2).replaceAll("(\\w+) \\w+", "$1") + ")");
+        }
         Set<String> seen = new TreeSet<>();
         for (Method method : ShutWays.class.getDeclaredMethods()) {
             if (Modifier.isPublic(method.getModifiers())) {
                 seen.add(told(method));
-                names.add(method.getName());
-                check.holds(method + " answers an int", method.getReturnType() == int.class);
-            }
-        }
-        check.holds("public methods: " + seen, seen.equals(due));
-        for (Method method : ShutWays.class.getDeclaredMethods()) {
-            if (!Modifier.isPublic(method.getModifiers()) && !method.isSynthetic()) {
+            } else if (!method.isSynthetic()) {
                 check.holds(method + " is private", Modifier.isPrivate(method.getModifiers()));
                 check.holds(method + " has a name of its own", !names.contains(method.getName()));
             }
         }
+        check.due("methods of the document", due.size(), 27);
+        check.holds("methods: " + seen + ", due are " + due, seen.equals(due));
     }
 
     private static String told(Method method) {
-        StringBuilder told = new StringBuilder(method.getName()).append('(');
-        for (Class<?> type : method.getParameterTypes()) {
-            told.append(told.charAt(told.length() - 1) == '(' ? "" : ",").append(type.getName());
-        }
-        return told.append(')').toString();
+        String parameters = Arrays.stream(method.getParameterTypes()).map(Class::getName).collect(Collectors.joining(", "));
+        return method.getReturnType().getName() + " " + method.getName() + "(" + parameters + ")";
     }
 
-    private static void constructors() {
+    private static void constructors(List<String> face) {
         Constructor<?>[] all = ShutWays.class.getDeclaredConstructors();
         check.due("constructors", all.length, 1);
         check.holds("it is public, without parameters",
                 Modifier.isPublic(all[0].getModifiers()) && all[0].getParameterCount() == 0);
+        check.holds("the document has it so", face.contains("public ShutWays();"));
     }
 
-    private static void fields() {
-        Set<String> due = Set.of("NONE", "UNKNOWN", "OUTSIDE", "NOT", "FULL");
-        int open = 0;
-        for (Field field : ShutWays.class.getDeclaredFields()) {
-            int modifiers = field.getModifiers();
-            if (!Modifier.isPrivate(modifiers)) {
-                open++;
-                check.holds(field + " is the document's", due.contains(field.getName()) && Modifier.isPublic(modifiers));
-            }
-            check.holds(field + " is no changing static", !Modifier.isStatic(modifiers) || Modifier.isFinal(modifiers));
+    private static void classesInside() {
+        for (Class<?> inside : ShutWays.class.getDeclaredClasses()) {
+            int modifiers = inside.getModifiers();
+            check.holds(inside + " is static, and cannot be seen outside",
+                    Modifier.isStatic(modifiers) && !Modifier.isPublic(modifiers) && !Modifier.isProtected(modifiers));
         }
-        check.due("constants", open, due.size());
     }
 }

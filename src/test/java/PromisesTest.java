@@ -1,3 +1,7 @@
+import java.io.IOException;
+import java.util.Set;
+import java.util.TreeSet;
+
 /** Each promise by its number: ordinary calls, the edges that the document names, wrong calls. */
 public final class PromisesTest {
     private static final int NONE = -1, UNKNOWN = -2, OUTSIDE = -3, NOT = -4, FULL = -5;
@@ -5,9 +9,11 @@ public final class PromisesTest {
     private static final String THREE = Towns.THREE, CHAIN = Towns.CHAIN;
 
     private static final Check check = new Check("PromisesTest");
+    private static final Set<String> tested = new TreeSet<>();
 
-    public static void main(String[] args) {
+    public static void main(String[] args) throws IOException {
         newObject();
+        objectsApart();
         write();
         erase();
         faultOfWords();
@@ -39,10 +45,17 @@ public final class PromisesTest {
         fits();
         count();
         anyNumbers();
+        int promises = new Document().promises().size();
+        check.due("promises of the document", promises, 28);
+        for (int number = 1; number <= promises; number++) {
+            check.holds("promise " + number + " has a test", tested.contains("" + number));
+        }
         check.end();
     }
 
+    /** What is told begins with the number of the promise. */
     private static void due(String what, long got, long want) {
+        tested.add(what.substring(0, Math.max(0, what.indexOf(':'))));
         check.due(what, got, want);
     }
 
@@ -64,6 +77,17 @@ public final class PromisesTest {
 
     private static void newObject() {
         dueCounts("1: new", new ShutWays(), 4, 0, 0, 0, 2, 10, 0, 0, 0, 0, 1, 0);
+    }
+
+    private static void objectsApart() {
+        ShutWays one = Check.told(THREE, "first 2");
+        ShutWays other = Towns.busy();
+        dueCounts("1: new beside others", new ShutWays(), 4, 0, 0, 0, 2, 10, 0, 0, 0, 0, 1, 0);
+        due("1: the one", one.go(1), 1);
+        due("1: the other", other.go(1), 7);
+        due("1: foretold of the other", other.later(9), Towns.busy().later(10));
+        dueCounts("1: the one", one, 4, 5, 0, 0, 2, 10, 1, 0, 1, 0, 1, 0);
+        dueWay("1: the one", one, 5, 2, 3);
     }
 
     private static void write() {
@@ -216,18 +240,18 @@ public final class PromisesTest {
 
     private static void townStays() {
         ShutWays x = Check.told("town 6;street 0 5 8;price 0 9;ends 2 3;also 5 4;longest 7;lane 1 2 3 4;cart 12");
-        for (String text : new String[] {"street 1 2 3", "price 1 6"}) {
+        for (String text : new String[] {"street 1 2 3", "price 1 6", "price 1 7"}) {
             Check.write(x, text);
             due("5: one more line", x.town(), 1);
+            dueCounts("5: what is not told again stays", x, 6, 2, 1, 2, 7, 12, 0, 0, 0, 2, 3, 0);
+            due("5: its yards", x.street(0, 2), 8);
+            due("5: its price", x.street(0, 3), 9);
+            due("5: its cost", x.lane(0, 3), 4);
+            x.go(1);
+            due("5: odd market", x.count(9), 5);
+            due("5: odd quay", x.count(10), 4);
         }
-        dueCounts("5: what is not told again stays", x, 6, 2, 1, 2, 7, 12, 0, 0, 0, 2, 3, 0);
-        due("5: its yards", x.street(0, 2), 8);
-        due("5: its price", x.street(0, 3), 9);
-        due("5: the new price", x.street(1, 3), 6);
-        due("5: its cost", x.lane(0, 3), 4);
-        x.go(1);
-        due("5: odd market", x.count(9), 5);
-        due("5: odd quay", x.count(10), 4);
+        due("5: the new price", x.street(1, 3), 7);
     }
 
     private static void townBegins() {

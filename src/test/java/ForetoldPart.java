@@ -1,8 +1,8 @@
 import java.util.function.Supplier;
 
-/** The bounds of what is foretold, and of nights told. */
-final class BoundsOfForetold extends Bounds {
-    BoundsOfForetold(Sentences say) {
+/** What is foretold, and nights told. */
+final class ForetoldPart extends Part {
+    ForetoldPart(Sentences say) {
         super(say);
     }
 

@@ -2,14 +2,14 @@ import java.util.List;
 import java.util.function.Supplier;
 import java.util.function.ToIntFunction;
 
-/** What the tests of the bounds share. */
-abstract class Bounds {
+/** A part of the document, tested sentence by sentence, and what the tests share. */
+abstract class Part {
     static final int NONE = -1, UNKNOWN = -2, OUTSIDE = -3, NOT = -4, FULL = -5;
     static final int LEAST_INT = Integer.MIN_VALUE, GREATEST_INT = Integer.MAX_VALUE;
 
     final Sentences say;
 
-    Bounds(Sentences say) {
+    Part(Sentences say) {
         this.say = say;
     }
 

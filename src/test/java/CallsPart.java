@@ -1,11 +1,11 @@
 import java.util.function.Supplier;
 
-/** The bounds of each call, promise by promise: what it takes, what it refuses, and that nothing changes then. */
-final class BoundsOfCalls extends Bounds {
+/** Each call, promise by promise: what it takes, what it refuses, and that nothing changes then. */
+final class CallsPart extends Part {
     private final Supplier<ShutWays> fresh = ShutWays::new;
     private final Supplier<ShutWays> busy = Towns::busy;
 
-    BoundsOfCalls(Sentences say) {
+    CallsPart(Sentences say) {
         super(say);
     }
 

@@ -1,12 +1,12 @@
-/** The bounds of what is told: corners, streets, ends, councils, lanes, carts, and the text that tells them. */
-final class BoundsOfTexts extends Bounds {
+/** What is told: corners, streets, ends, councils, lanes, carts, and the text that tells them. */
+final class TextsPart extends Part {
     private static final String[] KINDS = {"first", "last", "longest", "least"};
     private static final String[] PAIRS = {"street # # 9", "ends # #", "also # #", "lane # # 9 9"};
     /** All sorts of lines, right where there are 4 corners and 1 street. */
     private static final String[] LINES = {"town 4", "street 0 1 9", "price 0 9", "ends 1 0", "also 1 0", "first 1",
         "last 1", "longest 1", "least 1", "lane 0 1 9 9", "cart 9"};
 
-    BoundsOfTexts(Sentences say) {
+    TextsPart(Sentences say) {
         super(say);
     }
 

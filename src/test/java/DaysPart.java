@@ -1,18 +1,19 @@
-/** The bounds of days and nights: the way, what councils shut, floods and fairs. */
-final class BoundsOfDays extends Bounds {
+/** Days and nights: the way, what councils shut, floods and fairs. */
+final class DaysPart extends Part {
     private static final String[] KINDS = {"first", "last", "longest", "least"};
 
-    BoundsOfDays(Sentences say) {
+    DaysPart(Sentences say) {
         super(say);
     }
 
     void all() {
-        say.says("An object is used for at most 512 calls after it has been made", this::lastOf512Calls);
+        say.says("An object is used for at most 512 calls after it has been made; what later calls answer is free.",
+                this::lastOf512Calls);
         say.says("THE WAY of DAY t goes from MARKET to QUAY of that DAY by open STREETS: the shortest", this::shortest);
         say.says("of several the first (that which has the lesser STREET where, from MARKET on, they are first unlike)",
                 this::firstOfSeveral);
         say.says("none: there is no WAY.", this::noWay);
-        say.says("THE COUNCIL shuts a STREET of THE WAY (none: nothing)", this::nothingToShut);
+        say.says("In THE NIGHT behind it THE COUNCIL shuts a STREET of THE WAY (none: nothing)", this::oneOfTheWayOrNothing);
         say.says("FIRST the first from MARKET on, LAST the last, LONGEST the longest (of several the least), LEAST the least"
                 + " number", this::whatCouncilsShut);
         say.says("it is shut on the next k DAYS. Then the next DAY comes.", this::nextDays);
@@ -35,6 +36,9 @@ final class BoundsOfDays extends Bounds {
         due("call 510", x.town(), 1);
         due("call 511", x.go(999), 999);
         due("call 512", x.count(5), 5);
+        for (int call = 513; call <= 2000; call++) {
+            say.holds("call " + call + " has some answer", x.go(call) >= FULL);
+        }
     }
 
     private void shortest() {
@@ -75,6 +79,38 @@ final class BoundsOfDays extends Bounds {
         due("nothing to shut", x.as(0), NONE);
         x.go(1);
         dueWay("open again", x, 5, 0);
+    }
+
+    private void oneOfTheWayOrNothing() {
+        for (String kind : KINDS) {
+            ShutWays x = Check.told(Towns.THREE, "street 2 3 1;also 3 0;" + kind + " 3");
+            for (int night = 0; night < 20; night++) {
+                int way = setOfWay(x);
+                x.go(1);
+                int shut = shutFor(3, x);
+                due(kind + ", night " + night + ", so many", Integer.bitCount(shut), way == 0 ? 0 : 1);
+                due(kind + ", night " + night + ", not of the way", shut & ~way, 0);
+            }
+        }
+        nothingToShut();
+    }
+
+    private static int setOfWay(ShutWays x) {
+        int set = 0;
+        int streets = x.way(1);
+        for (int i = 0; i < streets; i++) {
+            set |= 1 << x.way(10 + i);
+        }
+        return set;
+    }
+
+    private static int shutFor(int days, ShutWays x) {
+        int set = 0;
+        int streets = x.count(1);
+        for (int street = 0; street < streets; street++) {
+            set |= x.street(street, 4) == days ? 1 << street : 0;
+        }
+        return set;
     }
 
     private void nothingToShut() {
